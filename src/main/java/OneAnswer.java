@@ -112,7 +112,7 @@ public final class OneAnswer {
         if (!isQuestion(question) || !isWorld(world)) {
             return refuse(NONE_SUCH);
         }
-        return answer(bitOf(well.land.so[question], world));
+        return answer(bitOf(well.land.soWorlds(question), world));
     }
 
     public long chance(int question, boolean lower) {
@@ -129,7 +129,7 @@ public final class OneAnswer {
         Land land = well.land;
         int bits = 0;
         for (int other = 0; other < land.questions; other++) {
-            if (((land.so[question] ^ land.so[other]) & land.canBe) == 0) {
+            if (((land.soWorlds(question) ^ land.soWorlds(other)) & land.canBe) == 0) {
                 bits |= 1 << other;
             }
         }
@@ -141,7 +141,7 @@ public final class OneAnswer {
             return refuse(NONE_SUCH);
         }
         Land land = well.land;
-        long against = land.canBe & land.so[question] & ~land.so[other];
+        long against = land.canBe & land.soWorlds(question) & ~land.soWorlds(other);
         return answer(against == 0 ? 1 : 0);
     }
 
@@ -192,7 +192,7 @@ public final class OneAnswer {
         if (!isHouse(house) || !isQuestion(question)) {
             return refuse(NONE_SUCH);
         }
-        return answer(verdict(well.mind.worldsOf(house), well.land.so[question]));
+        return answer(verdict(well.mind.worldsOf(house), well.land.soWorlds(question)));
     }
 
     public int fact(int house, int fact) {
@@ -206,7 +206,7 @@ public final class OneAnswer {
         if (!isQuestion(question)) {
             return refuse(NONE_SUCH);
         }
-        return answer(verdict(well.mind.worldsOfAll(), well.land.so[question]));
+        return answer(verdict(well.mind.worldsOfAll(), well.land.soWorlds(question)));
     }
 
     public int onlyTogether() {
@@ -316,13 +316,7 @@ public final class OneAnswer {
         if (!isHouse(house)) {
             return refuse(NONE_SUCH);
         }
-        int graves = 0;
-        for (int k = 0; k < well.told.count; k++) {
-            if (well.told.house[k] == house && well.told.yes[k]) {
-                graves++;
-            }
-        }
-        return answer(graves);
+        return answer(well.told.yesBy(house));
     }
 
     // ---- stones
@@ -343,7 +337,7 @@ public final class OneAnswer {
         int sought = land.stoneSaysYes(stone) ? 1 : 0;
         int bits = 0;
         for (int question = 0; question < land.questions; question++) {
-            if (verdict(worlds, land.so[question]) == sought) {
+            if (verdict(worlds, land.soWorlds(question)) == sought) {
                 bits |= 1 << question;
             }
         }
@@ -381,7 +375,7 @@ public final class OneAnswer {
             return refuse(NOTHING);
         }
         long all = land.weightOf(worlds);
-        long yes = land.weightOf(worlds & land.so[question]);
+        long yes = land.weightOf(worlds & land.soWorlds(question));
         long no = all - yes;
         return inLowestTerms(yes * yes + no * no, all, lower);
     }
@@ -467,11 +461,7 @@ public final class OneAnswer {
         if (year < 0 || year > LAST_YEAR) {
             return refuse(WRONG_NUMBER);
         }
-        int turns = 0;
-        for (int house = 0; house < well.houses; house++) {
-            turns += well.house[house].askingsTo(year);
-        }
-        return answer(turns);
+        return answer(well.turnsUpTo(year));
     }
 
     public int births(int house, int seed, int n) {
@@ -544,7 +534,7 @@ public final class OneAnswer {
         if (!hasWell) {
             return refuse(NONE_SUCH);
         }
-        if (imageCount >= IMAGE_ROOM) {
+        if (imageCount < 0 || imageCount >= IMAGE_ROOM) {
             return refuse(NO_ROOM);
         }
         images[imageCount].copyOf(well.told);
@@ -669,7 +659,7 @@ public final class OneAnswer {
         if (well.told.count >= ANSWER_ROOM) {
             return refuse(NO_ROOM);
         }
-        boolean yes = bitOf(well.land.so[question], well.land.truth) == 1 != lying;
+        boolean yes = bitOf(well.land.soWorlds(question), well.land.truth) == 1 != lying;
         well.told.add(house, question, yes);
         well.mind.findLiars(well.houses);
         acts.keep(Acts.ANSWER, house, question);
@@ -678,7 +668,7 @@ public final class OneAnswer {
 
     private long chanceIn(long worlds, int question, boolean lower) {
         Land land = well.land;
-        return inLowestTerms(land.weightOf(worlds & land.so[question]), land.weightOf(worlds), lower);
+        return inLowestTerms(land.weightOf(worlds & land.soWorlds(question)), land.weightOf(worlds), lower);
     }
 
     private long inLowestTerms(long upper, long lower, boolean wantsLower) {
@@ -1134,8 +1124,7 @@ public final class OneAnswer {
             if (question >= QUESTION_ROOM || !takeNewName(QUESTION, question)) {
                 return false;
             }
-            well.land.so[question] = formula();
-            well.land.questions++;
+            well.land.addQuestion(formula());
             return fault == 0;
         }
 
@@ -1190,11 +1179,15 @@ public final class OneAnswer {
             for (int i = 0; i <= TAPE_ROOM && more; i++) {
                 more = readOpening() && readFactInFormula() && readClosing();
             }
-            return terms[0] | term[0];
+            return soAtLevel();
+        }
+
+        private boolean isLevel() {
+            return open >= 0 && open <= BRACKET_ROOM;
         }
 
         private void beginLevel() {
-            if (open >= 0 && open <= BRACKET_ROOM) {
+            if (isLevel()) {
                 terms[open] = 0;
                 term[open] = -1L;
                 turned[open] = false;
@@ -1205,7 +1198,7 @@ public final class OneAnswer {
         private boolean readOpening() {
             for (int i = 0; i <= TAPE_ROOM && (tape.kind == '(' || tape.kind == KIND_NOT); i++) {
                 if (tape.kind == KIND_NOT) {
-                    turned[open] = !turned[open];
+                    turnNextFactor();
                 } else if (open >= BRACKET_ROOM) {
                     return fail(MANY, tape.at);
                 } else {
@@ -1231,22 +1224,40 @@ public final class OneAnswer {
             return true;
         }
 
+        private void turnNextFactor() {
+            if (isLevel()) {
+                turned[open] = !turned[open];
+            }
+        }
+
         private void joinFactor(long so) {
-            term[open] &= turned[open] ? ~so : so;
-            turned[open] = false;
+            if (isLevel()) {
+                term[open] &= turned[open] ? ~so : so;
+                turned[open] = false;
+            }
+        }
+
+        private void beginTerm() {
+            if (isLevel()) {
+                terms[open] |= term[open];
+                term[open] = -1L;
+            }
+        }
+
+        private long soAtLevel() {
+            return isLevel() ? terms[open] | term[open] : 0;
         }
 
         /** Reads what stands behind a fact; false if no factor follows. */
         private boolean readClosing() {
             for (int i = 0; i < BRACKET_ROOM && open > 0 && tape.kind == ')'; i++) {
-                long so = terms[open] | term[open];
+                long so = soAtLevel();
                 open--;
                 joinFactor(so);
                 tape.advance();
             }
             if (tape.kind == KIND_OR) {
-                terms[open] |= term[open];
-                term[open] = -1L;
+                beginTerm();
             } else if (tape.kind != KIND_AND) {
                 return open > 0 && fail(FORM, tape.at);
             }
@@ -1369,6 +1380,14 @@ public final class OneAnswer {
             return UNKNOWN;
         }
 
+        int turnsUpTo(int year) {
+            int turns = 0;
+            for (int i = 0; i < houses && i < HOUSE_ROOM; i++) {
+                turns += house[i].askingsTo(year);
+            }
+            return turns;
+        }
+
         private int earliestHouse() {
             int earliest = NONE;
             int least = 0;
@@ -1398,7 +1417,7 @@ public final class OneAnswer {
         boolean truthTold;
         int truth;
         int questions;
-        final long[] so = new long[QUESTION_ROOM];
+        private final long[] so = new long[QUESTION_ROOM];
         int stones;
         int stoneBits;
         final int[] weight = new int[WORLD_ROOM];
@@ -1439,12 +1458,14 @@ public final class OneAnswer {
 
         int weightOf(long worlds) {
             int sum = 0;
-            long rest = worlds;
-            for (int world = 0; world < WORLD_ROOM && rest != 0; world++) {
-                if ((rest & 1) == 1) {
+            long rest = worlds & canBe;
+            // Plans weigh many small sets: only the worlds that are there are looked at.
+            for (int i = 0; i < WORLD_ROOM && rest != 0; i++) {
+                int world = Long.bitCount((rest & -rest) - 1);
+                if (world < WORLD_ROOM) {
                     sum += weight[world];
                 }
-                rest >>>= 1;
+                rest &= rest - 1;
             }
             return sum;
         }
@@ -1461,18 +1482,26 @@ public final class OneAnswer {
             return likeliest;
         }
 
-        long worldsWith(int question, boolean yes) {
-            if (question < 0 || question >= QUESTION_ROOM) {
-                return 0;
+        void addQuestion(long worlds) {
+            if (questions >= 0 && questions < QUESTION_ROOM) {
+                so[questions] = worlds;
+                questions++;
             }
-            return canBe & (yes ? so[question] : ~so[question]);
+        }
+
+        long soWorlds(int question) {
+            return question >= 0 && question < QUESTION_ROOM ? so[question] : 0;
+        }
+
+        long worldsWith(int question, boolean yes) {
+            return canBe & (yes ? soWorlds(question) : ~soWorlds(question));
         }
 
         /** The questions that are known, yes or no, by these worlds. */
         int settled(long worlds) {
             int bits = 0;
-            for (int question = 0; question < questions && question < QUESTION_ROOM; question++) {
-                if (verdict(worlds, so[question]) != UNKNOWN) {
+            for (int question = 0; question < questions; question++) {
+                if (verdict(worlds, soWorlds(question)) != UNKNOWN) {
                     bits |= 1 << question;
                 }
             }
@@ -1623,6 +1652,16 @@ public final class OneAnswer {
             question[count] = toQuestion;
             yes[count] = saysYes;
             count++;
+        }
+
+        int yesBy(int ofHouse) {
+            int many = 0;
+            for (int k = 0; k < count && k < ANSWER_ROOM; k++) {
+                if (house[k] == ofHouse && yes[k]) {
+                    many++;
+                }
+            }
+            return many;
         }
 
         boolean areWed(int a, int b) {
@@ -1815,6 +1854,8 @@ public final class OneAnswer {
         // A price counts only in the round in which it was found, so that none need be wiped.
         private final int[] round = new int[STATES];
         private int thisRound;
+        // Two worlds that no question parts stay together whatever is asked: then no plan will do.
+        private boolean hopeless;
 
         Plan(Land land) {
             this.land = land;
@@ -1826,12 +1867,13 @@ public final class OneAnswer {
             byMean = mean;
             begin = worlds;
             thisRound++;
+            hopeless = false;
             others = 0;
             for (int i = 0; i < land.questions && i < QUESTION_ROOM; i++) {
                 if (i == question) {
-                    sought = land.so[i];
+                    sought = land.soWorlds(i);
                 } else if (others < OTHERS) {
-                    so[others] = land.so[i];
+                    so[others] = land.soWorlds(i);
                     number[others] = i;
                     others++;
                 }
@@ -1839,11 +1881,11 @@ public final class OneAnswer {
             return priceOf(begin, 0, 0);
         }
 
-        /** The first question with which a plan of this price can begin. */
+        /** The first question with which a plan of so few questions can begin. */
         int opening(int whole) {
             int step = 1;
             for (int i = 0; i < others && i < OTHERS && whole > 0; i++) {
-                if (priceBy(i, begin, step, 0, 0) == whole) {
+                if (priceBehind(i, begin, step, 0, 0) == whole - 1) {
                     return number[i];
                 }
                 step *= 3;
@@ -1855,7 +1897,7 @@ public final class OneAnswer {
             if (verdict(worlds, sought) != UNKNOWN) {
                 return 0;
             }
-            if (asked >= others || state < 0 || state >= STATES) {
+            if (hopeless || asked > OTHERS || state < 0 || state >= STATES) {
                 return CANNOT;
             }
             if (round[state] == thisRound) {
@@ -1863,20 +1905,22 @@ public final class OneAnswer {
             }
             int least = CANNOT;
             int step = 1;
-            for (int i = 0; i < others; i++) {
-                least = Math.min(least, priceBy(i, worlds, step, state, asked));
+            for (int i = 0; i < others && least > 0; i++) {
+                least = Math.min(least, priceBehind(i, worlds, step, state, asked));
                 step *= 3;
             }
-            if (byMean && least != CANNOT) {
-                least += land.weightOf(worlds);
+            if (least == CANNOT) {
+                hopeless = true;
+                return CANNOT;
             }
+            least += byMean ? land.weightOf(worlds) : 1;
             round[state] = thisRound;
             price[state] = least;
             return least;
         }
 
-        /** What is still to pay if a question is the next one; by the mean, without what it costs itself. */
-        private int priceBy(int i, long worlds, int step, int state, int asked) {
+        /** What is still to pay behind a question if it is asked next. */
+        private int priceBehind(int i, long worlds, int step, int state, int asked) {
             if (i < 0 || i >= OTHERS) {
                 return CANNOT;
             }
@@ -1887,14 +1931,11 @@ public final class OneAnswer {
                 return CANNOT;
             }
             int ifYes = priceOf(yes, state + step, asked + 1);
-            if (ifYes == CANNOT) {
-                return CANNOT;
-            }
             int ifNo = priceOf(no, state + 2 * step, asked + 1);
-            if (ifNo == CANNOT) {
+            if (hopeless) {
                 return CANNOT;
             }
-            return byMean ? ifYes + ifNo : 1 + Math.max(ifYes, ifNo);
+            return byMean ? ifYes + ifNo : Math.max(ifYes, ifNo);
         }
     }
 
