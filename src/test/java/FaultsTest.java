@@ -45,6 +45,8 @@ public final class FaultsTest {
         fault(1, "^");
         fault(1, "     ^");
         fault(1, "^;");
+        fault(1, "^" + times(900, ";"));
+        fault(1, F + "law " + times(80, "not ") + "^" + times(400, ")"));
         fault(1, "^hello");
         fault(1, "^Well now 5");
         fault(1, "^\twell now 5");

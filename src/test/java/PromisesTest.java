@@ -347,6 +347,8 @@ public final class PromisesTest {
         due("the later two gain more", made(TWO + ";told i qa yes;told j qb yes").bestWedding(), 12);
         due("kin bring all they know",
             made(TWO + ";told i qa yes;told j qb yes;weds h i").bestWedding(), 2);
+        due("what one of them knew is no gain", made(TWO + ";house k first 0 each 1 twins 0;"
+            + "told h qa yes;told h qb yes;told i qa yes;told j qb yes").bestWedding(), 12);
         due("the torn know nothing together", made(TORN).onlyTogether(), 0);
     }
 
@@ -580,6 +582,9 @@ public final class PromisesTest {
         for (int i = 0; i < turns.length; i++) {
             due("turnOf " + i, x.turnOf(i), turns[i]);
         }
+        // six turns in three years, then five in each two: eighteen times, and the fourth of those
+        due("the last turn that is told of", made(TWO).turnOf(99), 0);
+        due("the one ahead of it", made(TWO).turnOf(98), 2);
         refused(x, "turnOf", x.turnOf(100), 2);
         refused(x, "turnOf", x.turnOf(-1), 2);
         due("turnsTo", x.turnsTo(0), 1);
@@ -599,6 +604,8 @@ public final class PromisesTest {
         due("turnOf", end.turnOf(1), 0);
         due("there is none", end.turnOf(2), -2);
         due("turnsTo", end.turnsTo(999), 2);
+        due("turnsTo the year in which it ends", end.turnsTo(7), 2);
+        due("turnsTo", end.turnsTo(3), 2);
         due("turnsTo", end.turnsTo(2), 0);
         OneAnswer late = made("well now 999;fact a odds 2;house h first 0 each 32 twins 0;twin h 30;twin h 0");
         due("twins of the thirtieth generation", late.asking(0, 31), 960);
@@ -617,6 +624,8 @@ public final class PromisesTest {
         due("no twins, told ones don't count", x.births(1, 1, 3), 3);
         due("births", x.births(2, 1, 3), 4);
         due("the first draw", x.births(2, 1, 1), 1);
+        due("49 isn't below 49", made("well now 0;fact a odds 5;house h first 0 each 1 twins 49").births(0, 1, 1), 1);
+        due("it is below 50", made("well now 0;fact a odds 5;house h first 0 each 1 twins 50").births(0, 1, 1), 2);
         due("no generations", x.births(0, 1, 0), 0);
         due("the greatest seed", x.births(0, 65536, 99), 198);
         due("the least seed", x.births(0, 0, 1), 1);
@@ -723,6 +732,24 @@ public final class PromisesTest {
         }
         refused(x, "the thirteenth", x.undo(), 6);
         due("the first year stays", x.size(8), 11);
+        x.years(1);
+        x.wed(0, 2);
+        for (int i = 0; i < 5; i++) {
+            x.ask(i % 2, i % 4);
+            x.years(2 + i);
+        }
+        x.wed(1, 2);
+        due("12 are kept", x.size(10), 12);
+        for (int i = 0; i < 11; i++) {
+            Check.due("undo", x.undo(), true);
+        }
+        due("answers", x.size(5), 4);
+        due("now", x.size(8), 12);
+        due("the first wedding yet", x.kin(0), 7);
+        Check.due("the twelfth", x.undo(), true);
+        due("is the wedding", x.kin(0), 3);
+        refused(x, "the thirteenth is gone", x.undo(), 6);
+        due("now", x.size(8), 12);
         refused(x, "refused acts aren't kept", x.wed(0, 1), 5);
         refused(x, "nothing to undo", x.undo(), 6);
     }
