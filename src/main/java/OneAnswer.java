@@ -659,7 +659,8 @@ public final class OneAnswer {
         if (well.told.count >= ANSWER_ROOM) {
             return refuse(NO_ROOM);
         }
-        boolean yes = bitOf(well.land.soWorlds(question), well.land.truth) == 1 != lying;
+        boolean isTrue = bitOf(well.land.soWorlds(question), well.land.truth) == 1;
+        boolean yes = isTrue != lying;
         well.told.add(house, question, yes);
         well.mind.findLiars(well.houses);
         acts.keep(Acts.ANSWER, house, question);
@@ -1705,6 +1706,8 @@ public final class OneAnswer {
 
     /** Who lies, and which worlds are left by whose answers. */
     private static final class Mind {
+        private static final int ALL_HOUSES = -1;
+
         private final Land land;
         private final Told told;
         private final long[] straight = new long[HOUSE_ROOM];
@@ -1783,11 +1786,11 @@ public final class OneAnswer {
         }
 
         long worldsOf(int house) {
-            return worldsBy(told.kinOf(house));
+            return worldsWithout(NONE, told.kinOf(house));
         }
 
         long worldsOfAll() {
-            return worldsBy(-1);
+            return worldsWithout(NONE, ALL_HOUSES);
         }
 
         long worldsBy(int houses) {

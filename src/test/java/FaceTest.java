@@ -101,8 +101,9 @@ public final class FaceTest {
 
     private static void source(String text) {
         String code = text.replaceAll("(?s)/\\*.*?\\*/", "").replaceAll("//.*", "").replaceAll("\"[^\"]*\"", "\"\"");
-        for (String word : List.of("package", "try", "catch", "finally", "assert", "synchronized", "System",
-            "Thread", "Random", "record", "enum", "interface", "var", "instanceof", "String", "List", "double", "float")) {
+        for (String word : List.of("package", "finally", "assert", "synchronized", "Thread", "Random", "var",
+            "Exception", "RuntimeException", "Throwable", "ArrayIndexOutOfBoundsException", "NullPointerException",
+            "ClassCastException", "NegativeArraySizeException", "ArrayStoreException", "System\\.(?!arraycopy)\\w+")) {
             so("no " + word, !Pattern.compile("\\b" + word + "\\b").matcher(code).find());
         }
         so("no lambda", !code.contains("->"));
@@ -110,7 +111,6 @@ public final class FaceTest {
         so("no static block", !Pattern.compile("static\\s*\\{").matcher(code).find());
         so("one import", code.split("\\bimport\\b", -1).length == 2
             && code.contains("import java.util.NoSuchElementException;"));
-        so("one throw", code.split("\\bthrow\\b", -1).length == 2);
         so("signs 1 to 127", text.chars().allMatch(c -> c > 0 && c < 128));
     }
 
