@@ -4,6 +4,7 @@ import java.util.function.LongSupplier;
 final class Check {
     private static int done;
     private static int wrong;
+    private static String about = "";
 
     private Check() {
     }
@@ -13,13 +14,22 @@ final class Check {
         if (got != want) {
             wrong++;
             if (wrong <= 50) {
-                System.out.println(what + " answered " + got + ", due is " + want);
+                System.out.println(about + what + " answered " + got + ", due is " + want);
             }
         }
     }
 
     static void due(String what, boolean got, boolean want) {
         due(what, got ? 1 : 0, want ? 1 : 0);
+    }
+
+    /** What stands ahead of the answers that are wrong from here on. */
+    static void about(String words) {
+        about = words;
+    }
+
+    static int done() {
+        return done;
     }
 
     static boolean soFarSo() {

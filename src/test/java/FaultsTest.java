@@ -1,8 +1,8 @@
 /** Texts with a mark ahead of the place of their first fault, and its number; and texts without one. */
 public final class FaultsTest {
-    private static final String F = "well now 5;fact a odds 5;fact b odds 5;";
-    private static final String H = F + "house h first 0 each 9 twins 0;house i first 0 each 9 twins 0;";
-    private static final String Q = H + "question q a or b;question r b;";
+    private static final String F = Texts.FACTS;
+    private static final String H = Texts.HOUSES;
+    private static final String Q = Texts.QUESTIONS;
 
     public static void main(String[] args) {
         form();
@@ -21,24 +21,15 @@ public final class FaultsTest {
     }
 
     private static void fault(int number, String marked) {
-        int place = marked.indexOf('^');
-        String text = marked.substring(0, place) + marked.substring(place + 1);
-        OneAnswer x = new OneAnswer();
-        Check.due("well " + marked, Check.load(x, text), -1);
-        Check.due("trouble " + marked, x.trouble(), 4);
-        Check.due("fault " + marked, x.fault(), number);
-        Check.due("where " + marked, x.where(), place);
+        Texts.fault(number, marked);
     }
 
     private static OneAnswer sound(String text) {
-        OneAnswer x = new OneAnswer();
-        Check.load(x, text);
-        Check.due("fault of " + text + " at " + x.where(), x.fault(), 0);
-        return x;
+        return Texts.sound(text);
     }
 
     private static String times(int n, String text) {
-        return text.repeat(n);
+        return Texts.times(n, text);
     }
 
     private static void form() {

@@ -8,11 +8,8 @@ public final class PromisesTest {
         + "ends birch 40;question qa iron;question qb wood and sea;question qc not (iron and sea);"
         + "question qd sea;told ash qa yes;told birch qb no;told cedar qd no;told ash qd yes;"
         + "stone yes;stone no;weds ash birch";
-    private static final String TWO = "well now 0;fact a odds 5;fact b odds 5;"
-        + "house h first 0 each 1 twins 0;house i first 0 each 1 twins 0;house j first 3 each 2 twins 7;"
-        + "question qa a;question qb b;question qc a and b;question qd a or b";
-    /** No house, however it lies, can have told this: it says yes and no of one question. */
-    private static final String TORN = TWO + ";told h qa yes;told h qa no;told i qb yes";
+    private static final String TWO = Texts.TWO;
+    private static final String TORN = Texts.TORN;
 
     public static void main(String[] args) {
         newObject();
