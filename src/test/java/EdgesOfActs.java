@@ -80,8 +80,8 @@ final class EdgesOfActs {
         due("now's, the second", x.next(0), 15);
         x.years(4);
         due("now's, the last one", x.next(2), 19);
-        OneAnswer late = made("well now 999;fact a odds 5;house h first 999 each 99 twins 0;house i first 998 each 99 twins 0;"
-            + "house j first 0 each 27 twins 0");
+        OneAnswer late = made("well now 999;fact a odds 5;house h first 999 each 99 twins 0;"
+            + "house i first 998 each 99 twins 0;house j first 0 each 27 twins 0");
         due("in the last year", late.next(0), 999);
         due("behind the last year", late.next(1), 1097);
         due("in the last year, far from the first", late.next(2), 999);
@@ -92,8 +92,10 @@ final class EdgesOfActs {
         due("behind", made(BARE.replace("now 0", "now 9") + ";ends h 9").next(0), -2);
         due("ended at once", made(BARE + ";ends h 0").next(0), -2);
         due("not yet", made(BARE.replace("now 0", "now 9") + ";ends h 10").next(0), 9);
-        due("no next ahead of the end", made("well now 5;fact a odds 5;house h first 4 each 9 twins 0;ends h 13").next(0), -2);
-        due("one ahead of the end", made("well now 5;fact a odds 5;house h first 4 each 9 twins 0;ends h 14").next(0), 13);
+        due("no next ahead of the end",
+            made("well now 5;fact a odds 5;house h first 4 each 9 twins 0;ends h 13").next(0), -2);
+        due("one ahead of the end",
+            made("well now 5;fact a odds 5;house h first 4 each 9 twins 0;ends h 14").next(0), 13);
 
         says(41, "NONE: 1.");
         Edges.noneSuch("next", Edges.Sort.HOUSE, (y, house) -> y.next(house));
@@ -136,7 +138,8 @@ final class EdgesOfActs {
     private static void turnsTo() {
         says(43, "How many TURNS there are up to a year, that one too (0 .. 999).");
         OneAnswer x = made(TURNS);
-        int[][] rows = {{0, 0}, {1, 1}, {2, 1}, {9, 1}, {10, 4}, {14, 4}, {15, 5}, {19, 6}, {20, 7}, {998, 202}, {999, 203}};
+        int[][] rows = {{0, 0}, {1, 1}, {2, 1}, {9, 1}, {10, 4}, {14, 4}, {15, 5}, {19, 6}, {20, 7}, {998, 202},
+            {999, 203}};
         for (int[] row : rows) {
             Edges.taken(x, "up to " + row[0], () -> x.turnsTo(row[0]), row[1]);
         }
@@ -145,7 +148,8 @@ final class EdgesOfActs {
         due("of twins", made(BARE + ";twin h 0;twin h 30").turnsTo(29), 31);
         due("of the thirtieth, too", made(BARE + ";twin h 0;twin h 30").turnsTo(30), 33);
         due("and one more", made(BARE + ";twin h 0;twin h 30").turnsTo(31), 34);
-        due("of six houses", made("well now 0;fact a odds 5;" + Texts.each("ghijkl", "house ", " first 0 each 1 twins 0")
+        due("of six houses",
+            made("well now 0;fact a odds 5;" + Texts.each("ghijkl", "house ", " first 0 each 1 twins 0")
             + Texts.each("012345", "twin g ", "") + "stone no").turnsTo(999), 6006);
         due("ended at once", made(BARE + ";ends h 0").turnsTo(999), 0);
         due("none in the year of the end", made(BARE + ";ends h 7").turnsTo(7), 7);
@@ -198,6 +202,13 @@ final class EdgesOfActs {
             due("acts", x.size(10), question + 1);
         }
         due("it is known now", x.known(1, 2), 0);
+        OneAnswer against = made(TRUE + ";told h qa no");
+        due("nobody lies", against.liars(), 0);
+        against.ask(1, 0);
+        due("one of two lies", against.liars(), 1);
+        due("four sets", against.sets(), 4);
+        against.ask(2, 0);
+        due("one against two", against.lies(0), 2);
         due("truth of no fact", made(TWO + ";truth none").ask(0, 3), 0);
         OneAnswer ended = made(TRUE + ";ends h 0");
         due("whoever's turn it is", ended.ask(0, 0), 1);
@@ -245,6 +256,12 @@ final class EdgesOfActs {
             due("acts", x.size(10), question + 1);
         }
         due("two graves", x.graves(2), 2);
+        OneAnswer against = made(TRUE + ";told h qa yes;told i qa yes");
+        due("nobody lies", against.liars(), 0);
+        against.lie(2, 0);
+        due("the third does", against.liars(), 4);
+        against.lie(2, 1);
+        due("sets", against.sets(), 2);
 
         says(46, "NONE: likewise.");
         Edges.noneSuch("lie by a house", Edges.Sort.HOUSE, (y, house) -> y.lie(house, 0),
@@ -386,6 +403,32 @@ final class EdgesOfActs {
         }
         due("kin", x.kin(0), 3);
         due("kin", x.kin(2), 4);
+        OneAnswer y = made(TRUE);
+        y.years(50);
+        y.wed(0, 1);
+        y.years(7);
+        y.ask(0, 0);
+        y.wed(1, 2);
+        y.lie(1, 1);
+        y.years(8);
+        y.wed(0, 2);
+        y.ask(2, 2);
+        y.years(9);
+        y.ask(1, 3);
+        y.lie(0, 3);
+        y.years(10);
+        due("twelve of thirteen", y.size(10), 12);
+        // answers, weddings, the year
+        int[][] rows = {{5, 3, 74}, {4, 3, 74}, {3, 3, 74}, {3, 3, 65}, {2, 3, 65}, {2, 2, 65}, {2, 2, 57}, {1, 2, 57},
+            {1, 1, 57}, {0, 1, 57}, {0, 1, 50}, {0, 0, 50}};
+        for (int[] row : rows) {
+            Edges.done(y, "undo", y::undo);
+            due("answers", y.size(5), row[0]);
+            due("weddings", y.size(7), row[1]);
+            due("the year", y.size(8), row[2]);
+        }
+        due("no kin", y.kin(0), 1);
+        Edges.denied(y, "the first of them", y::undo, 6);
     }
 
     private static void image() {
@@ -441,6 +484,18 @@ final class EdgesOfActs {
         x.years(2);
         Edges.done(x, "what came behind can be undone", x::undo);
         due("the year", x.size(8), 1);
+        OneAnswer y = made(TRUE);
+        y.ask(2, 1);
+        y.wed(0, 2);
+        y.image();
+        y.undo();
+        y.undo();
+        y.lie(1, 0);
+        y.wed(0, 1);
+        Edges.done(y, "back", () -> y.back(0));
+        due("the first answer", y.told(0, 0) * 100 + y.told(0, 1) * 10 + y.told(0, 2), 210);
+        due("the first house's kin", y.kin(0), 5);
+        due("the second's", y.kin(1), 2);
 
         says(51, "(all IMAGES stay):");
         due("three", x.size(11), 3);
@@ -507,8 +562,8 @@ final class EdgesOfActs {
     }
 
     private static void size() {
-        says(53, "0 FACTS, 1 laws, 2 HOUSES, 3 twins told, 4 questions, 5 answers, 6 STONES, 7 weddings, 8 the year NOW, "
-            + "9 1 if truth is told, 10 ACTS that can be undone, 11 IMAGES, 12 bytes of THE TAPE.");
+        says(53, "0 FACTS, 1 laws, 2 HOUSES, 3 twins told, 4 questions, 5 answers, 6 STONES, 7 weddings, "
+            + "8 the year NOW, 9 1 if truth is told, 10 ACTS that can be undone, 11 IMAGES, 12 bytes of THE TAPE.");
         OneAnswer x = made(Texts.full());
         x.ask(0, 0);
         x.lie(0, 0);

@@ -4,7 +4,8 @@ final class EdgesOfKnowledge {
     private static final String TORN = Texts.TORN;
     private static final String BARE = Texts.BARE;
     private static final String SIX = "well now 0;fact a odds 5;fact b odds 5;"
-        + Texts.each("ghijkl", "house ", " first 0 each 1 twins 0") + "question qa a;question qb b;question qc a and b;";
+        + Texts.each("ghijkl", "house ", " first 0 each 1 twins 0")
+        + "question qa a;question qb b;question qc a and b;";
     /** Questions that don't tell enough of each other. */
     private static final String APART = "well now 0;fact a odds 5;fact b odds 5;fact c odds 5;" + Texts.HOUSE
         + ";question qa a;question qb b;question qc b and c";
@@ -52,6 +53,8 @@ final class EdgesOfKnowledge {
         }
         due("itself alone", made(BARE).kin(0), 1);
         due("all six", made(SIX + "weds l k;weds k j;weds j i;weds i h;weds h g").kin(0), 63);
+        due("all six from the last", made(SIX + "weds l k;weds k j;weds j i;weds i h;weds h g").kin(5), 63);
+        due("all six from the midst", made(SIX + "weds g l;weds l h;weds h k;weds k i;weds i j").kin(3), 63);
 
         says(16, "NONE: 1.");
         Edges.noneSuch("kin", Edges.Sort.HOUSE, (y, house) -> y.kin(house));
@@ -114,6 +117,7 @@ final class EdgesOfKnowledge {
         OneAnswer x = made(TWO + ";told h qa yes;told i qb yes");
         Edges.taken(x, "both", x::onlyTogether, 0b0100);
         due("neither", made(TWO + ";told h qa no;told i qb no").onlyTogether(), 0b1000);
+        due("the first question", made(TWO + ";told h qd yes;told i qb no").onlyTogether(), 0b0001);
         due("one house knows it", made(TWO + ";told h qa yes;told i qb yes;told j qc yes").onlyTogether(), 0);
         due("wed, they know it", made(TWO + ";told h qa yes;told i qb yes;weds h i").onlyTogether(), 0);
         due("all know nothing", made(TWO).onlyTogether(), 0);
@@ -158,7 +162,8 @@ final class EdgesOfKnowledge {
         Edges.taken(x, "of all", () -> x.likeliest(1), 1);
         Edges.taken(x, "of two", () -> x.likeliest(0), 0);
         due("the last one", made(land + ";law a;law b").likeliest(0), 3);
-        due("the last of 64", made("well now 0;" + Texts.each("abcdef", "fact ", " odds 9") + Texts.HOUSE).likeliest(0), 63);
+        due("the last of 64",
+            made("well now 0;" + Texts.each("abcdef", "fact ", " odds 9") + Texts.HOUSE).likeliest(0), 63);
 
         says(23, "the first such;");
         due("of four", made(TWO).likeliest(0), 0);
@@ -201,9 +206,12 @@ final class EdgesOfKnowledge {
         Edges.taken(x, "not a", () -> x.wouldKnow(0, 0, false), 0b0101);
         Edges.taken(x, "b, with a", () -> x.wouldKnow(1, 1, true), 0b1111);
         due("what it knows", x.wouldKnow(1, 0, true), 0b1001);
+        due("nothing of the first", x.wouldKnow(0, 1, true), 0b1010);
+        due("one alone", x.wouldKnow(0, 3, true), 0b1000);
         due("nothing is told by it", x.left(0), 4);
         due("nor kept", x.size(5), 1);
-        due("a liar's are turned round", made(TWO + ";told h qa yes;told i qa no;told j qa no").wouldKnow(0, 1, true), 0b1111);
+        due("a liar's are turned round",
+            made(TWO + ";told h qa yes;told i qa no;told j qa no").wouldKnow(0, 1, true), 0b1111);
 
         says(25, "-2 if that can't be.");
         Edges.taken(x, "not a", () -> x.wouldKnow(1, 0, false), -2);
@@ -214,11 +222,13 @@ final class EdgesOfKnowledge {
         says(25, "NONE: 1.");
         Edges.noneSuch("wouldKnow by a house", Edges.Sort.HOUSE, (z, house) -> z.wouldKnow(house, 0, true),
             new String[] {TWO, Texts.full()});
-        Edges.noneSuch("wouldKnow of a question", Edges.Sort.QUESTION, (z, question) -> z.wouldKnow(0, question, false));
+        Edges.noneSuch("wouldKnow of a question", Edges.Sort.QUESTION,
+            (z, question) -> z.wouldKnow(0, question, false));
     }
 
     private static void needless() {
-        says(26, "Answers of kin, as told, that could be left out, one alone, and as many WORLDS would be left, as bits.");
+        says(26, "Answers of kin, as told, that could be left out, one alone, "
+            + "and as many WORLDS would be left, as bits.");
         OneAnswer x = made(TWO + ";told h qa yes;told i qa yes;told j qb yes;told h qd yes;weds h i");
         Edges.taken(x, "one of two alike, and what they tell", () -> x.needless(0), 0b1011);
         Edges.taken(x, "of kin", () -> x.needless(1), 0b1011);
@@ -226,7 +236,8 @@ final class EdgesOfKnowledge {
         due("by a law", made(TWO + ";law a;told h qa yes").needless(0), 1);
         due("of no answers", made(TWO).needless(0), 0);
         due("without worlds one may be needless", made(TORN).needless(0), 0);
-        due("three that are torn, by two each", made(TWO + ";told h qa yes;told h qa no;told h qa yes").needless(0), 0b101);
+        due("three that are torn, by two each",
+            made(TWO + ";told h qa yes;told h qa no;told h qa yes").needless(0), 0b101);
         OneAnswer all = made(TWO + ";truth a" + Texts.times(12, ";told h qa yes"));
         for (int i = 0; i < 8; i++) {
             all.ask(0, 0);
@@ -264,6 +275,9 @@ final class EdgesOfKnowledge {
             int i = k;
             Edges.taken(x, "clashes " + k, () -> x.told(i, 4), clashes[k]);
         }
+        due("not with itself", made(TWO + ";law a;told h qa no").told(0, 4), 0);
+        due("what can't be, with each other",
+            made(TWO + ";law a;told h qa no;told i qb yes;told j qa no").told(0, 4), 2);
 
         says(27, "NONE: 1.");
         Edges.noneSuch("told", Edges.Sort.ANSWER, (y, k) -> y.told(k, 0));
@@ -321,6 +335,11 @@ final class EdgesOfKnowledge {
         due("of sixteen", twenty.graves(0), 6);
         due("of four", twenty.graves(1), 4);
         due("of none", twenty.graves(2), 0);
+        OneAnswer undone = made(TWO + ";truth a");
+        undone.ask(0, 0);
+        undone.ask(0, 0);
+        undone.undo();
+        due("what is undone counts no more", undone.graves(0), 1);
 
         says(30, "NONE: 1.");
         Edges.noneSuch("graves", Edges.Sort.HOUSE, (y, house) -> y.graves(house));
@@ -394,8 +413,8 @@ final class EdgesOfKnowledge {
     private static void leftMean() {
         String land = "well now 0;fact a odds 2;fact b odds 6;house h first 0 each 1 twins 0;"
             + "house i first 0 each 1 twins 0;question q a;question r b";
-        says(35, "What is left by a question on the mean, by ODDS: of ODDS of a HOUSE's WORLDS those left by each answer, "
-            + "times how likely it is, together, as a fraction.");
+        says(35, "What is left by a question on the mean, by ODDS: of ODDS of a HOUSE's WORLDS "
+            + "those left by each answer, times how likely it is, together, as a fraction.");
         OneAnswer x = made(land + ";told i r yes;question s a and b");
         // 20 times 0.2 and 80 times 0.8
         Edges.taken(x, "68", () -> x.leftMean(0, 0, false), 68);
@@ -454,6 +473,10 @@ final class EdgesOfKnowledge {
         Edges.taken(apart, "b and c by a and b", () -> apart.fewest(0, 2), -2);
         due("the only question", made(BARE + ";question q a").fewest(0, 0), -2);
         due("without worlds", made(TORN).fewest(0, 0), -2);
+
+        OneAnswer after = made(APART + ";question qd not b");
+        due("not enough", after.fewest(0, 0), -2);
+        due("but for another it is, behind that", after.fewest(0, 1), 1);
 
         says(37, "NONE: 1.");
         Edges.noneSuch("fewest by a house", Edges.Sort.HOUSE, (y, house) -> y.fewest(house, 0),

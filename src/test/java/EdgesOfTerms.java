@@ -5,6 +5,12 @@ final class EdgesOfTerms {
     private static final String SIX = "well now 0;" + Texts.each("abcdef", "fact ", " odds 9")
         + Texts.each("ghijkl", "house ", " first 0 each 1 twins 0");
 
+    /** Of eight worlds each question but the first is so in one alone. */
+    private static final String SEVEN = "well now 0;fact a odds 5;fact b odds 5;fact c odds 5;" + Texts.HOUSE
+        + ";question t a or b or c;question qa a and not b and not c;question qb not a and b and not c;"
+        + "question qc a and b and not c;question qd not a and not b and c;question qe a and not b and c;"
+        + "question qf not a and b and c;question qg a and b and c";
+
     private EdgesOfTerms() {
     }
 
@@ -49,7 +55,8 @@ final class EdgesOfTerms {
 
     private static void worlds() {
         two("A WORLD: which FACTS hold; its number: of each that holds 2 to as many as its number, together.");
-        OneAnswer x = made(SIX + Texts.each("abcde", "question q", " a").replaceAll("q(.) a", "q$1 $1") + "question qf f");
+        OneAnswer x = made(SIX + Texts.each("abcde", "question q", " a").replaceAll("q(.) a", "q$1 $1")
+            + "question qf f");
         for (int world = 0; world < 64; world++) {
             for (int fact = 0; fact < 6; fact++) {
                 due("fact " + fact + " in " + world, x.isSo(fact, world), world >> fact & 1);
@@ -120,6 +127,17 @@ final class EdgesOfTerms {
         due("no answer is turned round", torn.known(1, 1), 1);
         due("it takes as it is told", torn.takes(0), 2);
         due("the one behind it, too", torn.takes(1), 2);
+        due("nor another house's", made(TWO + ";told i qa yes;told i qa no;told h qb yes").known(0, 1), 1);
+        OneAnswer then = made(TWO + ";truth a;told h qa no;told i qa yes");
+        due("a liar", then.liars(), 1);
+        due("two sets, with the third or without", then.sets(), 4);
+        due("turned round", then.known(0, 0), 1);
+        then.lie(1, 0);
+        due("the other is torn", then.sets(), 0);
+        due("so that nobody is turned round", then.known(0, 0), 0);
+        then.undo();
+        due("the liar again", then.liars(), 1);
+        due("four sets again", then.sets(), 4);
     }
 
     private static void known() {
@@ -134,6 +152,11 @@ final class EdgesOfTerms {
             due("by a chain of five", chain.known(house, 0), 1);
             due("by a chain turned round", turned.known(house, 0), 1);
             due("by a chain in no order", mixed.known(house, 0), 1);
+        }
+
+        OneAnswer first = made(SIX + "question q a;told g q yes;weds g h;weds h i;weds i j;weds j k;weds k l");
+        for (int house = 0; house < 6; house++) {
+            due("from the other end", first.known(house, 0), 1);
         }
 
         two("(LIARS' turned round): WORLDS that CAN BE by these.");
@@ -176,7 +199,8 @@ final class EdgesOfTerms {
         due("one that never can be, alone", made(TWO + ";law a;told h qa no").clashes(), 0);
         due("and with another", made(TWO + ";law a;told h qa no;told i qb no").clashes(), 1);
 
-        two("WASTED: an answer (LIARS' turned round) by which, behind all told ahead, no WORLD of those that CAN BE goes.");
+        two("WASTED: an answer (LIARS' turned round) by which, behind all told ahead, "
+            + "no WORLD of those that CAN BE goes.");
         OneAnswer x = made(TWO + ";told h qa yes;told i qa no;told j qa no");
         int[] wasted = {0, 1, 1};
         for (int k = 0; k < 3; k++) {
@@ -191,7 +215,8 @@ final class EdgesOfTerms {
     }
 
     private static void stones() {
-        three("A STONE COULD have answered a question if there is a WORLD of all that is KNOWN in which that is its answer;");
+        three("A STONE COULD have answered a question if there is a WORLD "
+            + "of all that is KNOWN in which that is its answer;");
         OneAnswer x = made(TWO + ";told h qa yes;told i qb no;stone yes;stone no");
         due("yes", x.could(0), 0b1001);
         due("no", x.could(1), 0b0110);
@@ -220,7 +245,8 @@ final class EdgesOfTerms {
         // of 100, by the one answer or the other: 90, 90, 81
         due("by odds, not by number", made(land + "question p a;question q b;question r a and b").best(0), 2);
         due("the first such", made(land + "question p a;question q b").best(0), 0);
-        due("its contrary is as good", made(land + "question p a;question r not (a and b);question s a and b").best(0), 1);
+        due("its contrary is as good",
+            made(land + "question p a;question r not (a and b);question s a and b").best(0), 1);
         due("of the worlds that it knows", made(land + "question p a;question r a and b;question s b;"
             + "told z p yes").best(0), 1);
         due("no more is known by the first", made(land + "question p a;question s b;told z p yes").best(0), 1);
@@ -259,6 +285,16 @@ final class EdgesOfTerms {
             + Texts.each("abcdef", "question q", " b").replaceAll("q(.) b", "q$1 $1");
         due("six", made(six + "stone no").fewest(0, 0), 6);
         due("with one known", made(six + "told g qc yes").fewest(0, 0), 5);
+        due("one, then three more, by the worse answer", made("well now 0;" + Texts.each("abcd", "fact ", " odds 5")
+            + Texts.HOUSE + ";question t a and c or not a and b and c and d;question q a;question r b;question s c;"
+            + "question u d").fewest(0, 0), 4);
+        OneAnswer seven = made(SEVEN);
+        due("all seven others", seven.fewest(0, 0), 7);
+        due("the first of them", seven.first(0, 0), 1);
+        // of eight worlds seven end it at their question, the last at the seventh
+        due("35", seven.mean(0, 0, false), 35);
+        due("by 8", seven.mean(0, 0, true), 8);
+        due("the last, by all the others", seven.fewest(0, 7), 7);
 
         three("which itself may not be asked,");
         due("not by itself", made(land + "question x a;question y b").fewest(0, 0), -2);
@@ -276,8 +312,12 @@ final class EdgesOfTerms {
 
         three("FIRST: the first such to begin with.");
         due("not with the first question", x.first(0, 0), 2);
+        due("with the eighth", made("well now 0;" + Texts.each("abcd", "fact ", " odds 5") + Texts.HOUSE
+            + ";question t b and a or not b and c;question p a;question q c;question r d;question s a and d;"
+            + "question u c and d;question v d or a;question w b").first(0, 0), 7);
         due("two would do", made(land + "question t a and b;question x b;question y a").first(0, 0), 1);
-        due("the last may be asked of, too", made(land + "question x b;question y a;question t a and b").first(0, 2), 0);
+        due("the last may be asked of, too",
+            made(land + "question x b;question y a;question t a and b").first(0, 2), 0);
         due("the worst counts, not the mean",
             made(land + "question t c or (a and b);question x a;question y b;question w c").first(0, 0), 1);
 
@@ -359,7 +399,8 @@ final class EdgesOfTerms {
         due("none of no generations", withTwins(99).births(0, 1, 0), 0);
 
         three("told twins don't count");
-        due("told", made("well now 0;fact a odds 5;house h first 0 each 1 twins 0;twin h 0;twin h 1").births(0, 1, 9), 9);
+        due("told",
+            made("well now 0;fact a odds 5;house h first 0 each 1 twins 0;twin h 0;twin h 1").births(0, 1, 9), 9);
         due("told and drawn", made("well now 0;fact a odds 5;house h first 0 each 1 twins 50;twin h 0")
             .births(0, 1, 1), 2);
 

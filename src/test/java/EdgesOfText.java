@@ -62,6 +62,8 @@ final class EdgesOfText {
         due("its last byte is read", sound(filled + "9").size(2), 1);
         fault(1, filled + "^#");
         fault(1, filled + " ^");
+        fault(1, "^" + times(900, ";"));
+        fault(1, "^" + times(900, "9"));
         OneAnswer x = new OneAnswer();
         for (int i = 0; i < 44; i++) {
             x.feed(0, 0, 0, 0, 0);
@@ -89,7 +91,8 @@ final class EdgesOfText {
     private static void words() {
         says("TOKENS: WORDS of 1 to 8 small letters that stand together,");
         due("one letter", sound("well now 5;fact z odds 5;" + HOUSE.replace('z', 'a')).size(0), 1);
-        due("eight, unlike in the last", sound("well now 5;fact abcdefgh odds 5;fact abcdefgi odds 5;" + HOUSE).size(0), 2);
+        due("eight, unlike in the last",
+            sound("well now 5;fact abcdefgh odds 5;fact abcdefgi odds 5;" + HOUSE).size(0), 2);
         due("one is no part of another", sound("well now 5;fact a odds 5;fact aa odds 5;" + HOUSE).size(0), 2);
         due("unlike in the first", sound("well now 5;fact abcdefgh odds 5;fact bbcdefgh odds 5;" + HOUSE).size(0), 2);
         fault(3, "well now 5;fact abcdefgh odds 5;fact ^abcdefgh odds 5");
@@ -203,7 +206,8 @@ final class EdgesOfText {
 
         says("or truth NAME {, NAME} (of FACTS, each once),");
         due("one", sound(six + "truth f;question q f;" + HOUSE).ask(0, 0), 1);
-        due("all six", sound(six + "truth f,e,d,c,b,a;question q a and b and c and d and e and f;" + HOUSE).ask(0, 0), 1);
+        due("all six",
+            sound(six + "truth f,e,d,c,b,a;question q a and b and c and d and e and f;" + HOUSE).ask(0, 0), 1);
         fault(3, six + "truth f,e,d,c,b,a,^f");
         fault(1, six + "truth ^,a");
         fault(1, six + "truth a,^,b");
@@ -446,7 +450,8 @@ final class EdgesOfText {
         String rest = text.substring(Q.length());
         for (int n = Q.length(); n < text.length(); n++) {
             boolean whole = rest.charAt(n - Q.length()) == ';';
-            boolean amid = n > Q.length() && Character.isLetter(text.charAt(n)) && Character.isLetter(text.charAt(n - 1));
+            boolean amid = n > Q.length() && Character.isLetter(text.charAt(n))
+                && Character.isLetter(text.charAt(n - 1));
             if (!whole && !amid) {
                 fault(1, text.substring(0, n) + "^");
                 fault(1, text.substring(0, n) + "   ^");
@@ -513,7 +518,8 @@ final class EdgesOfText {
         fault(3, H + "weds i ^i");
         fault(3, H + "weds h i;weds h ^i");
         fault(3, H + "weds h i;weds i ^h");
-        due("kin that aren't wed may", sound(H + "house j first 0 each 1 twins 0;weds h i;weds i j;weds h j").size(7), 3);
+        due("kin that aren't wed may",
+            sound(H + "house j first 0 each 1 twins 0;weds h i;weds i j;weds h j").size(7), 3);
 
         says("a second well, truth: at that WORD.");
         fault(3, "well now 5;^well");

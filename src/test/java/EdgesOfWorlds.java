@@ -141,6 +141,7 @@ final class EdgesOfWorlds {
         due("names of another text aren't told", y.fault(), 2);
         Check.load(y, Texts.full());
         due("and the full one again", y.size(5), 12);
+        afresh();
 
         says(3, "(nothing to undo, no IMAGES):");
         OneAnswer z = made(TWO + ";truth a");
@@ -160,6 +161,45 @@ final class EdgesOfWorlds {
             String text = houses;
             OneAnswer w = new OneAnswer();
             Edges.taken(w, "a well of " + i, () -> Check.load(w, text), i);
+        }
+    }
+
+    /** Whatever texts an object had, a text is read as by a new one. */
+    private static void afresh() {
+        String[] ahead = {Texts.full().replace("stone no", "stone yes"), "well now 5;fact a odds 5;law not",
+            "well now 5;fact a odds 5;law not (not (not", "well now 5;fact a odds 5;law (a and not",
+            "well now 5;fact a odds 5;law a or (a and (not", "well now 5;fact a odds 5;truth a;law a and not a"};
+        String text = "well now 0;fact b odds 3;fact c odds 4;house g first 0 each 1 twins 0;"
+            + "question m c and (b or (c))";
+        for (String one : ahead) {
+            for (String other : ahead) {
+                OneAnswer x = new OneAnswer();
+                Check.load(x, one);
+                Check.load(x, other);
+                due("a well behind " + one + " and " + other, Check.load(x, text), 1);
+                int[] sizes = {2, 0, 1, 0, 1, 0, 0, 0, 0, 0, 0, 0, 0};
+                for (int what = 0; what < sizes.length; what++) {
+                    due("size " + what, x.size(what), sizes[what]);
+                }
+                for (int world = 0; world < 4; world++) {
+                    due("so in " + world, x.isSo(0, world), world >> 1);
+                    due("can be " + world, x.canBe(world), 1);
+                }
+                due("odds", x.odds(3), 12);
+                due("kin", x.kin(0), 1);
+                due("sets", x.sets(), 2);
+                due("graves", x.graves(0), 0);
+                due("no end, no twins", x.asking(0, 99), 99);
+                due("no stone", x.could(0), -1);
+            }
+            OneAnswer y = new OneAnswer();
+            Check.load(y, one);
+            Check.load(y, one);
+            Check.load(y, text + ";stone no");
+            due("its own stone", y.could(0), 1);
+            due("says no", y.surely(0), 0);
+            Check.load(y, text + ";law not c;stone no");
+            due("of what isn't so", y.surely(0), 1);
         }
     }
 
@@ -189,8 +229,9 @@ final class EdgesOfWorlds {
         y.years(7);
         y.image();
         int[] before = answersOf(y);
-        for (String faulty : new String[] {"", "well now 9", "well now 9;fact x odds 5;house a first 0 each 1 twins 0;#",
-            Texts.full() + ";", "well now 9;fact x odds 5;" + Texts.HOUSE + ";law x and not x"}) {
+        for (String faulty : new String[] {"", "well now 9",
+            "well now 9;fact x odds 5;house a first 0 each 1 twins 0;#", Texts.full() + ";",
+            "well now 9;fact x odds 5;" + Texts.HOUSE + ";law x and not x"}) {
             due("a fault", Check.load(y, faulty), -1);
             due("trouble", y.trouble(), 4);
             int[] behind = answersOf(y);
@@ -208,9 +249,9 @@ final class EdgesOfWorlds {
     }
 
     private static int[] answersOf(OneAnswer x) {
-        return new int[] {x.size(0), x.size(1), x.size(2), x.size(3), x.size(4), x.size(5), x.size(6), x.size(7), x.size(8),
-            x.size(9), x.size(10), x.size(11), x.worlds(), x.canBe(0), x.liars(), x.kin(0), x.left(0), x.known(1, 0),
-            x.could(0), x.turnsTo(99)};
+        return new int[] {x.size(0), x.size(1), x.size(2), x.size(3), x.size(4), x.size(5), x.size(6), x.size(7),
+            x.size(8), x.size(9), x.size(10), x.size(11), x.worlds(), x.canBe(0), x.liars(), x.kin(0), x.left(0),
+            x.known(1, 0), x.could(0), x.turnsTo(99)};
     }
 
     private static void faultAndWhere() {
@@ -325,7 +366,8 @@ final class EdgesOfWorlds {
     private static void chances() {
         says(10, "How likely a question is so, of WORLDS that CAN BE, by ODDS,");
         String land = "well now 0;fact a odds 2;fact b odds 5;" + Texts.HOUSE
-            + ";question qa a;question qb b;question qc a and b;question qd a or b;question qe a and not a;question qf a or not a";
+            + ";question qa a;question qb b;question qc a and b;question qd a or b;"
+            + "question qe a and not a;question qf a or not a";
         OneAnswer x = made(land + ";law a or b");
         // of 10 + 40 + 10
         due("a", x.chance(0, false) * 100 + x.chance(0, true), 103);
@@ -397,8 +439,10 @@ final class EdgesOfWorlds {
         says(13, "-2 nobody can make them so.");
         OneAnswer torn = made(TORN);
         Edges.taken(torn, "torn", torn::liars, -2);
-        due("one of two that can't be both, nor neither", made(TWO + ";question qe a and b or not a and not b;question qf a and not b "
-            + "or b and not a;told h qe yes;told h qf yes").liars(), -2);
+        due("one of two that can't be both, nor neither",
+            made(TWO
+            + ";question qe a and b or not a and not b;question qf a and not b or b and not a;"
+            + "told h qe yes;told h qf yes").liars(), -2);
 
         says(13, "NONE: 1 (no WELL).");
         Edges.needsWell("liars", (y, i) -> y.liars());
