@@ -408,6 +408,9 @@ final class EdgesOfWorlds {
             due("itself alone", y.alike(question), 1 << question);
         }
         due("all eight", made(Texts.full()).alike(7), 255);
+        due("what is never so", made(TWO + ";question qe a and not a").alike(4), 0b10000);
+        due("by a law", made(TWO + ";law not a").alike(2), 0b0101);
+        due("what is always so", made(TWO + ";law a").alike(3), 0b1001);
         due("what answers tell counts nothing", made(TWO + ";told h qc yes").alike(0), 1);
 
         says(11, "NONE: 1.");
