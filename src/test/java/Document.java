@@ -18,7 +18,7 @@ final class Document {
     private Document() {
     }
 
-    /** The terms I to IV, and the promises by their numbers. */
+    /** What it is, the constants, the terms I to IV, and the promises by their numbers. */
     static void open() {
         String doc;
         try {
@@ -26,10 +26,12 @@ final class Document {
         } catch (IOException e) {
             throw new UncheckedIOException(e);
         }
+        gather(Pattern.compile("(?ms)^## (What it is)\\n(.*?)(?=^## )").matcher(doc));
+        gather(Pattern.compile("(?m)^(The constants): (.*)$").matcher(doc));
         String terms = doc.substring(doc.indexOf("## Terms"), doc.indexOf("The constants:"));
         gather(Pattern.compile("(?ms)^(I|II|III|IV)\\. (.*?)(?=^(?:I|II|III|IV)\\. |\\z)").matcher(terms));
         gather(Pattern.compile("(?ms)^## Promise (\\d+): \\w[\\w ]*\\n\\n`[^`]*`: (.*?)(?=^## )").matcher(doc));
-        Check.due("parts of the document", PARTS.size(), 4 + 54);
+        Check.due("parts of the document", PARTS.size(), 2 + 4 + 54);
     }
 
     private static void gather(Matcher matcher) {
@@ -38,6 +40,11 @@ final class Document {
             PARTS.put(matcher.group(1), text);
             NAMED.put(matcher.group(1), new boolean[text.length()]);
         }
+    }
+
+    /** The answers that are compared from here on are of what stands ahead of the terms. */
+    static void beginning(String name, String said) {
+        of(name, said);
     }
 
     /** The answers that are compared from here on are of a term, I to IV. */

@@ -2,6 +2,7 @@
 public final class EdgesTest {
     public static void main(String[] args) {
         Document.open();
+        EdgesOfBeginning.run();
         EdgesOfText.run();
         EdgesOfTerms.run();
         EdgesOfWorlds.run();

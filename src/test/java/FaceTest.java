@@ -24,6 +24,7 @@ public final class FaceTest {
         face();
         members();
         classesInside();
+        headings(Files.readString(DOC), Files.readString(SOURCE));
         source(Files.readString(SOURCE));
         methods(Files.readAllLines(SOURCE));
         Check.end();
@@ -42,13 +43,16 @@ public final class FaceTest {
         while (line.find()) {
             String types = Arrays.stream(line.group(3).split(", ")).map(p -> p.split(" ")[0])
                 .collect(Collectors.joining(","));
-            due.add(line.group(1) + " " + line.group(2) + "(" + types + ")");
+            String thrown = line.group(4) == null ? "" : line.group(4);
+            due.add(line.group(1) + " " + line.group(2) + "(" + types + ")" + thrown);
         }
         Set<String> got = new TreeSet<>();
         for (Method m : OneAnswer.class.getDeclaredMethods()) {
             if (!Modifier.isPrivate(m.getModifiers())) {
                 String types = Arrays.stream(m.getParameterTypes()).map(Class::getName).collect(Collectors.joining(","));
-                got.add(m.getReturnType().getName() + " " + m.getName() + "(" + types + ")");
+                String thrown = Arrays.stream(m.getExceptionTypes()).map(e -> " throws " + e.getSimpleName())
+                    .collect(Collectors.joining());
+                got.add(m.getReturnType().getName() + " " + m.getName() + "(" + types + ")" + thrown);
                 so(m.getName() + " is public", Modifier.isPublic(m.getModifiers()));
             }
         }
@@ -60,7 +64,7 @@ public final class FaceTest {
         so("final", Modifier.isFinal(OneAnswer.class.getModifiers()));
         Constructor<?>[] made = OneAnswer.class.getDeclaredConstructors();
         so("one public constructor", made.length == 1 && made[0].getParameterCount() == 0
-            && Modifier.isPublic(made[0].getModifiers()));
+            && Modifier.isPublic(made[0].getModifiers()) && made[0].getExceptionTypes().length == 0);
         for (Field f : OneAnswer.class.getDeclaredFields()) {
             so(f.getName() + " is private", Modifier.isPrivate(f.getModifiers()) || f.getName().equals("NONE"));
         }
@@ -97,6 +101,28 @@ public final class FaceTest {
             }
             so(c.getSimpleName() + " has some twenty fields", fields <= 20);
         }
+    }
+
+    /** What the interface says ahead of calls stands ahead of them in the class, too. */
+    private static void headings(String doc, String source) {
+        Matcher line = Pattern.compile("(?m)^Ahead of the calls (.*) the interface says: (---- .*)\\.$").matcher(doc);
+        int headings = 0;
+        int calls = 0;
+        while (line.find()) {
+            int from = source.indexOf("// " + line.group(2) + "\n");
+            so(line.group(2) + " stands in the class", from >= 0);
+            int to = source.indexOf("// ----", from + 1);
+            Matcher call = Pattern.compile("public \\w+ (\\w+)\\(").matcher(source.substring(Math.max(from, 0), to));
+            List<String> names = new ArrayList<>();
+            while (call.find()) {
+                names.add("`" + call.group(1) + "`");
+            }
+            so(line.group(2) + " is ahead of " + names, String.join(", ", names).equals(line.group(1)));
+            headings++;
+            calls += names.size();
+        }
+        Check.due("headings of the document", headings, 10);
+        Check.due("calls under them", calls, 53);
     }
 
     private static void source(String text) {
